@@ -875,7 +875,6 @@ public final class GaugeWeekend {
         private final int[] hoursLeft = new int[CARS * PLACES];
         private final int[] slotOf = new int[CARS];
         private final int[] wantedBy = new int[CARS];
-        private final int[] asked = new int[CARS];
         private final int[] queue = new int[CARS];
         private final int[] hoursSeen = new int[PLACES];
         private int queued = 0;
@@ -923,10 +922,10 @@ public final class GaugeWeekend {
 
         /**
          * Looks for a free slot for a CAR, asking those that hold the slots it could have, and those
-         * asked by them, to move on; all of the set stay in it, only their slots change.
+         * asked by them, to move on; all of the set stay in it, only their slots change. Each slot is
+         * seen once in a search, so that each CAR is asked once at most.
          */
         private boolean comesIntoSet(int car) {
-            Arrays.fill(asked, 0);
             Arrays.fill(hoursSeen, 0);
             queued = 0;
             ask(car, NONE);
@@ -941,12 +940,9 @@ public final class GaugeWeekend {
         }
 
         private void ask(int car, int by) {
-            if (at(asked, car) == 0 && queued < CARS) {
-                put(asked, car, 1);
-                put(wantedBy, car, by);
-                put(queue, queued, car);
-                queued++;
-            }
+            put(wantedBy, car, by);
+            put(queue, queued, car);
+            queued++;
         }
 
         /** A slot that a CAR could have and that has room; NONE: then all that hold one are asked. */
@@ -955,24 +951,32 @@ public final class GaugeWeekend {
                 int left = at(hoursLeft, car * PLACES + place);
                 for (int back = at(hoursSeen, place); back < left; back++) {
                     int slot = place * HOURS_BACK + back;
-                    if (askHolders(slot, car) < at(pushers, place)) {
+                    if (manyIn(slot) < at(pushers, place)) {
                         return slot;
                     }
+                    askHolders(slot, car);
                     put(hoursSeen, place, back + 1);
                 }
             }
             return NONE;
         }
 
-        private int askHolders(int slot, int by) {
+        private int manyIn(int slot) {
             int many = 0;
             for (int car = 0; car < CARS; car++) {
                 if (at(slotOf, car) == slot) {
-                    ask(car, by);
                     many++;
                 }
             }
             return many;
+        }
+
+        private void askHolders(int slot, int by) {
+            for (int car = 0; car < CARS; car++) {
+                if (at(slotOf, car) == slot) {
+                    ask(car, by);
+                }
+            }
         }
 
         /** Each CAR of the chain takes the slot that the one it asked leaves. */
