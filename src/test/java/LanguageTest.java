@@ -24,7 +24,8 @@ public final class LanguageTest {
         dueNone("rule 4, library", bare, "\\b(System\\.(?!arraycopy\\()|Arrays\\.(?!(copyOf|copyOfRange|fill)\\()|\\w*Exact\\()\\w*");
         dueNone("rule 5, statics", bare, "static (?!final |\\w+(\\[\\])? \\w+\\()[^\n]*");
         dueNone("rule 10, texts joined by +", bare, "\"\" \\+|\\+ \"\"");
-        dueNone("rule 12, objects made in calls", bare, "\n {12,}(?!railway|tape|reader|ways|cars|shops|wheels)[^\n]*\\bnew [^\n]*");
+        dueNone("rule 12, objects made in calls", bare,
+                "\n(?! {4,8}private (final )?\\S+ \\w+ = new | {8}\\w+ = new \\w+\\(\\);)[^\n]*\\bnew [^\n]*");
         methods(bare);
         classes(bare);
         t.close();
