@@ -1,8 +1,8 @@
 /** For each promise of the document: ordinary inputs, the edges that it names, and wrong inputs. */
 public final class PromisesTest {
-    private static final int LEAST = Integer.MIN_VALUE;
-    private static final int MOST = Integer.MAX_VALUE;
-    private static final int NONE = GaugeWeekend.NONE;
+    private static final int LEAST = Checks.LEAST;
+    private static final int MOST = Checks.MOST;
+    private static final int NONE = Checks.NONE;
     private static final Checks t = new Checks();
 
     public static void main(String[] args) {
@@ -46,30 +46,8 @@ public final class PromisesTest {
         t.close();
     }
 
-    private static GaugeWeekend fresh(String what) {
-        t.about(what);
-        return new GaugeWeekend();
-    }
-
-    /** Places 0, 1, 2 .. in a row, one line each of that many hours. */
-    private static GaugeWeekend chain(String what, int lines, int hours) {
-        GaugeWeekend x = fresh(what);
-        for (int i = 0; i < lines; i++) {
-            x.line(i, i + 1, 10, hours, true);
-        }
-        return x;
-    }
-
-    private static void dueSteps(GaugeWeekend x, int... steps) {
-        t.due("step(-1)", x.step(-1), steps.length);
-        for (int i = 0; i < steps.length; i++) {
-            t.due("step(" + i + ")", x.step(i), steps[i]);
-        }
-        t.due("step behind", x.step(steps.length), NONE);
-    }
-
     private static void newObject() {
-        GaugeWeekend x = fresh("promise 1");
+        GaugeWeekend x = t.fresh("promise 1");
         for (int what = 0; what <= 6; what++) {
             t.due("count(" + what + ")", x.count(what), 0);
         }
@@ -94,7 +72,7 @@ public final class PromisesTest {
     }
 
     private static void line() {
-        GaugeWeekend x = fresh("promise 2");
+        GaugeWeekend x = t.fresh("promise 2");
         t.due("first", x.line(0, 15, 1, 1, true), 0);
         t.due("second", x.line(15, 0, 200, 12, false), 1);
         int[][] wrong = {{-1, 0, 1, 1}, {16, 0, 1, 1}, {0, -1, 1, 1}, {0, 16, 1, 1}, {4, 4, 1, 1},
@@ -113,7 +91,7 @@ public final class PromisesTest {
     }
 
     private static void rates() {
-        GaugeWeekend x = fresh("promise 3");
+        GaugeWeekend x = t.fresh("promise 3");
         x.line(0, 1, 41, 1, true);
         x.line(0, 1, 41, 1, false);
         Checks.order(x, "line 0 at 0 with 1; line 1 at 0 with 1");
@@ -134,7 +112,7 @@ public final class PromisesTest {
     }
 
     private static void gangs() {
-        GaugeWeekend x = fresh("promise 4");
+        GaugeWeekend x = t.fresh("promise 4");
         t.due("gangs", x.gangs(0), 20);
         t.due("gangs", x.gangs(99), 0);
         t.due("gangs", x.gangs(100), -1);
@@ -144,7 +122,7 @@ public final class PromisesTest {
     }
 
     private static void transfer() {
-        GaugeWeekend x = fresh("promise 5");
+        GaugeWeekend x = t.fresh("promise 5");
         t.due("transfer", x.transfer(0), 3);
         t.due("transfer", x.transfer(12), 0);
         t.due("transfer", x.transfer(13), -1);
@@ -154,7 +132,7 @@ public final class PromisesTest {
     }
 
     private static void feedAndEnd() {
-        GaugeWeekend x = fresh("promises 6 and 7");
+        GaugeWeekend x = t.fresh("promises 6 and 7");
         t.due("end of none", x.end(0), 0);
         t.due("end of none", x.end(1), NONE);
         for (int i = 1; i <= 20; i++) {
@@ -183,7 +161,7 @@ public final class PromisesTest {
     }
 
     private static void ordersTaken() {
-        GaugeWeekend x = chain("promise 8", 12, 1);
+        GaugeWeekend x = t.chain("promise 8", 12, 1);
         t.due("empty", Checks.order(x, ""), 0);
         t.due("blanks", Checks.order(x, "     "), 0);
         t.due("one", Checks.order(x, "line 0 at 5 with 2"), 1);
@@ -210,78 +188,71 @@ public final class PromisesTest {
         t.due("all lines", Checks.order(x, all.toString()), 12);
     }
 
-    private static void dueFault(GaugeWeekend x, String text, int place) {
-        t.due("'" + text + "'", Checks.order(x, text), -6);
-        t.due("fault of '" + text + "'", x.fault(), place);
-        t.due("status", x.status(), -6);
-        t.due("tape is empty", x.count(5), 0);
-    }
-
     private static void ordersRefused() {
-        GaugeWeekend x = chain("promises 8 and 9", 3, 1);
-        dueFault(x, "lines 0 at 1 with 1", 0);
-        dueFault(x, "  lin 0 at 1 with 1", 2);
-        dueFault(x, "Line 0 at 1 with 1", 0);
-        dueFault(x, "liNe 0 at 1 with 1", 0);
-        dueFault(x, ";", 0);
-        dueFault(x, "0", 0);
-        dueFault(x, "line", 4);
-        dueFault(x, "line    ", 8);
-        dueFault(x, "line -1 at 1 with 1", 5);
-        dueFault(x, "line 3 at 1 with 1", 5);
-        dueFault(x, "line 99999999999999999999 at 1 with 1", 5);
-        dueFault(x, "line 4294967296 at 1 with 1", 5);
-        dueFault(x, "line at 1 with 1", 5);
-        dueFault(x, "line 0", 6);
-        dueFault(x, "line 0 with 1", 7);
-        dueFault(x, "line 0 at", 9);
-        dueFault(x, "line 0 at with 1", 10);
-        dueFault(x, "line 0 at 101 with 1", 10);
-        dueFault(x, "line 0 at 4294967297 with 1", 10);
-        dueFault(x, "line 0 at 1", 11);
-        dueFault(x, "line 0 at 1 and 1 with 1", 12);
-        dueFault(x, "line 0 at 1 with", 16);
-        dueFault(x, "line 0 at 1 with 0", 17);
-        dueFault(x, "line 0 at 1 with 100", 17);
-        dueFault(x, "line 0 at 1 with x", 17);
-        dueFault(x, "line 0 at 1 with 1;", 19);
-        dueFault(x, "line 0 at 1 with 1 ;  ", 22);
-        dueFault(x, "line 0 at 1 with 1 line 1 at 1 with 1", 19);
-        dueFault(x, "line 0 at 1 with 1;;line 1 at 1 with 1", 19);
-        dueFault(x, "line 0 at 1 with 1,line 1 at 1 with 1", 18);
-        dueFault(x, "line 0 at 1 with 1x", 18);
-        dueFault(x, "line 0 at 1 with 1 1", 19);
-        dueFault(x, "line 0 at 1 with 1;line 0 at 1 with 1", 24);
-        dueFault(x, "line 0 after 0 with 1", 13);
-        dueFault(x, "line 0 after 1 with 1; line 1 at 1 with 1", 13);
-        dueFault(x, "line 0 after 3 with 1", 13);
-        dueFault(x, "line 0 after 99 with 1", 13);
-        dueFault(x, "line 0 after and 1 with 1", 13);
-        dueFault(x, "line 0 at 1 with 1;line 1 after 0", 33);
-        dueFault(x, "line 0 at 1 with 1;line 1 after 0 and", 37);
-        dueFault(x, "line 0 at 1 with 1;line 1 after 0 and with 1", 38);
-        dueFault(x, "line 0 at 1 with 1;line 1 after 0 and 100 with 1", 38);
-        dueFault(x, "line 0 at 1 with 1;line 1 after 0 and 1 and 1 with 1", 40);
-        dueFault(x, "line 0 at 1 with 1;line 1 after 0 after 0 with 1", 34);
-        dueFault(x, "line\t0 at 1 with 1", 4);
-        dueFault(x, "line 0 at 1 with 1\0", 18);
-        dueFault(x, "line 0 at 1 with 1 " + (char) 255, 19);
-        dueFault(x, "line 0 at 1 " + (char) 233 + "with 1", 12);
-        dueFault(x, "lineat", 0);
-        dueFault(x, "linez 0 at 1 with 1", 0);
-        dueFault(x, "aline 0 at 1 with 1", 0);
-        dueFault(x, "at 1 with 1", 0);
-        dueFault(x, "line 0 at 1 with 1;at 1 with 1", 19);
-        dueFault(x, "line 0 at 1 with 1;line 1 after with 1", 32);
-        dueFault(x, "line 0 1 with 1", 7);
-        dueFault(x, "line 0 and 1 with 1", 7);
-        dueFault(x, "line 0at1wit", 9);
+        GaugeWeekend x = t.chain("promises 8 and 9", 3, 1);
+        t.dueFault(x, "lines 0 at 1 with 1", 0);
+        t.dueFault(x, "  lin 0 at 1 with 1", 2);
+        t.dueFault(x, "Line 0 at 1 with 1", 0);
+        t.dueFault(x, "liNe 0 at 1 with 1", 0);
+        t.dueFault(x, ";", 0);
+        t.dueFault(x, "0", 0);
+        t.dueFault(x, "line", 4);
+        t.dueFault(x, "line    ", 8);
+        t.dueFault(x, "line -1 at 1 with 1", 5);
+        t.dueFault(x, "line 3 at 1 with 1", 5);
+        t.dueFault(x, "line 99999999999999999999 at 1 with 1", 5);
+        t.dueFault(x, "line 4294967296 at 1 with 1", 5);
+        t.dueFault(x, "line at 1 with 1", 5);
+        t.dueFault(x, "line 0", 6);
+        t.dueFault(x, "line 0 with 1", 7);
+        t.dueFault(x, "line 0 at", 9);
+        t.dueFault(x, "line 0 at with 1", 10);
+        t.dueFault(x, "line 0 at 101 with 1", 10);
+        t.dueFault(x, "line 0 at 4294967297 with 1", 10);
+        t.dueFault(x, "line 0 at 1", 11);
+        t.dueFault(x, "line 0 at 1 and 1 with 1", 12);
+        t.dueFault(x, "line 0 at 1 with", 16);
+        t.dueFault(x, "line 0 at 1 with 0", 17);
+        t.dueFault(x, "line 0 at 1 with 100", 17);
+        t.dueFault(x, "line 0 at 1 with x", 17);
+        t.dueFault(x, "line 0 at 1 with 1;", 19);
+        t.dueFault(x, "line 0 at 1 with 1 ;  ", 22);
+        t.dueFault(x, "line 0 at 1 with 1 line 1 at 1 with 1", 19);
+        t.dueFault(x, "line 0 at 1 with 1;;line 1 at 1 with 1", 19);
+        t.dueFault(x, "line 0 at 1 with 1,line 1 at 1 with 1", 18);
+        t.dueFault(x, "line 0 at 1 with 1x", 18);
+        t.dueFault(x, "line 0 at 1 with 1 1", 19);
+        t.dueFault(x, "line 0 at 1 with 1;line 0 at 1 with 1", 24);
+        t.dueFault(x, "line 0 after 0 with 1", 13);
+        t.dueFault(x, "line 0 after 1 with 1; line 1 at 1 with 1", 13);
+        t.dueFault(x, "line 0 after 3 with 1", 13);
+        t.dueFault(x, "line 0 after 99 with 1", 13);
+        t.dueFault(x, "line 0 after and 1 with 1", 13);
+        t.dueFault(x, "line 0 at 1 with 1;line 1 after 0", 33);
+        t.dueFault(x, "line 0 at 1 with 1;line 1 after 0 and", 37);
+        t.dueFault(x, "line 0 at 1 with 1;line 1 after 0 and with 1", 38);
+        t.dueFault(x, "line 0 at 1 with 1;line 1 after 0 and 100 with 1", 38);
+        t.dueFault(x, "line 0 at 1 with 1;line 1 after 0 and 1 and 1 with 1", 40);
+        t.dueFault(x, "line 0 at 1 with 1;line 1 after 0 after 0 with 1", 34);
+        t.dueFault(x, "line\t0 at 1 with 1", 4);
+        t.dueFault(x, "line 0 at 1 with 1\0", 18);
+        t.dueFault(x, "line 0 at 1 with 1 " + (char) 255, 19);
+        t.dueFault(x, "line 0 at 1 " + (char) 233 + "with 1", 12);
+        t.dueFault(x, "lineat", 0);
+        t.dueFault(x, "linez 0 at 1 with 1", 0);
+        t.dueFault(x, "aline 0 at 1 with 1", 0);
+        t.dueFault(x, "at 1 with 1", 0);
+        t.dueFault(x, "line 0 at 1 with 1;at 1 with 1", 19);
+        t.dueFault(x, "line 0 at 1 with 1;line 1 after with 1", 32);
+        t.dueFault(x, "line 0 1 with 1", 7);
+        t.dueFault(x, "line 0 and 1 with 1", 7);
+        t.dueFault(x, "line 0at1wit", 9);
     }
 
     private static void ordersStayWhenRefused() {
-        GaugeWeekend x = chain("promise 8, refused", 3, 1);
+        GaugeWeekend x = t.chain("promise 8, refused", 3, 1);
         Checks.order(x, "line 0 at 5 with 2; line 1 after 0 with 3");
-        dueFault(x, "line 1 at 9 with 1; line 2 at 8 with 1 x", 39);
+        t.dueFault(x, "line 1 at 9 with 1; line 2 at 8 with 1 x", 39);
         t.due("orders stay", x.count(1), 2);
         t.due("begins", x.of(0, 0), 5);
         t.due("done", x.of(0, 1), 7);
@@ -294,7 +265,7 @@ public final class PromisesTest {
     }
 
     private static void faultOf() {
-        GaugeWeekend x = chain("promise 9", 2, 1);
+        GaugeWeekend x = t.chain("promise 9", 2, 1);
         t.due("ahead of any", x.fault(), NONE);
         Checks.order(x, "line 0 at x");
         t.due("fault", x.fault(), 10);
@@ -305,7 +276,7 @@ public final class PromisesTest {
     }
 
     private static void ofLine() {
-        GaugeWeekend x = chain("promise 10", 2, 1);
+        GaugeWeekend x = t.chain("promise 10", 2, 1);
         Checks.order(x, "line 1 at 9 with 2");
         t.due("begins", x.of(1, 0), 9);
         t.due("done", x.of(1, 1), 11);
@@ -322,7 +293,7 @@ public final class PromisesTest {
     }
 
     private static void doneRoundsUp() {
-        GaugeWeekend x = fresh("promise 10, rounded up");
+        GaugeWeekend x = t.fresh("promise 10, rounded up");
         x.line(0, 1, 24, 1, true);
         x.line(0, 1, 25, 1, true);
         x.line(0, 1, 1, 1, false);
@@ -339,7 +310,7 @@ public final class PromisesTest {
     }
 
     private static void afterChains() {
-        GaugeWeekend x = chain("promise 8, after", 4, 1);
+        GaugeWeekend x = t.chain("promise 8, after", 4, 1);
         Checks.order(x, "line 3 at 2 with 1;line 1 after 3 and 4 with 5;line 0 after 1 with 2;line 2 after 3 with 1");
         t.due("3 begins", x.of(3, 0), 2);
         t.due("3 done", x.of(3, 1), 5);
@@ -357,7 +328,7 @@ public final class PromisesTest {
     }
 
     private static void isLine() {
-        GaugeWeekend x = chain("promise 11", 2, 1);
+        GaugeWeekend x = t.chain("promise 11", 2, 1);
         Checks.order(x, "line 0 at 10 with 1");
         t.due("old", x.is(0, 0), 0);
         t.due("old", x.is(0, 9), 0);
@@ -373,7 +344,7 @@ public final class PromisesTest {
     }
 
     private static void busyAndLack() {
-        GaugeWeekend x = chain("promises 12 and 13", 3, 1);
+        GaugeWeekend x = t.chain("promises 12 and 13", 3, 1);
         Checks.order(x, "line 0 at 4 with 2;line 1 at 5 with 1;line 2 at 100 with 20");
         t.due("busy", x.busy(3), 0);
         t.due("busy", x.busy(4), 2);
@@ -407,84 +378,84 @@ public final class PromisesTest {
     }
 
     private static void wayOverOld() {
-        GaugeWeekend x = chain("promise 14, old", 3, 4);
+        GaugeWeekend x = t.chain("promise 14, old", 3, 4);
         t.due("way", x.way(0, 2, false, 3), 14);
-        dueSteps(x, 0, 1, 2);
+        t.dueSteps(x, 0, 1, 2);
         t.due("back", x.way(3, 2, false, 0), 14);
-        dueSteps(x, 2, 1, 0);
+        t.dueSteps(x, 2, 1, 0);
         Checks.order(x, "line 1 at 12 with 9");
         t.due("just there as it is shut", x.way(0, 4, false, 3), 16);
-        dueSteps(x, 0, 1, 2);
+        t.dueSteps(x, 0, 1, 2);
         t.due("too late: over the new one", x.way(0, 5, false, 3), 24);
-        dueSteps(x, 0, 30, 1, 30, 2);
+        t.dueSteps(x, 0, 30, 1, 30, 2);
         t.due("no new train on old lines", x.way(0, 0, true, 1), 7);
-        dueSteps(x, 30, 0);
+        t.dueSteps(x, 30, 0);
     }
 
     private static void wayOverNew() {
-        GaugeWeekend x = chain("promise 14, new", 2, 4);
+        GaugeWeekend x = t.chain("promise 14, new", 2, 4);
         Checks.order(x, "line 0 at 0 with 1;line 1 at 8 with 1");
         t.due("waits", x.way(0, 0, true, 2), 15);
-        dueSteps(x, 0, 1);
+        t.dueSteps(x, 0, 1);
         t.due("way", x.way(0, 20, true, 2), 28);
         t.due("way", x.way(0, 11, false, 1), 18);
-        dueSteps(x, 30, 0);
+        t.dueSteps(x, 30, 0);
         t.due("old first", x.way(2, 0, false, 0), 11);
-        dueSteps(x, 1, 30, 0);
+        t.dueSteps(x, 1, 30, 0);
     }
 
     private static void wayWithTransfers() {
-        GaugeWeekend x = chain("promise 14, transfer", 2, 4);
+        GaugeWeekend x = t.chain("promise 14, transfer", 2, 4);
         Checks.order(x, "line 0 at 0 with 9");
         t.due("way", x.way(0, 1, true, 2), 12);
-        dueSteps(x, 0, 30, 1);
+        t.dueSteps(x, 0, 30, 1);
         x.transfer(0);
         t.due("way", x.way(0, 1, true, 2), 9);
-        dueSteps(x, 0, 30, 1);
+        t.dueSteps(x, 0, 30, 1);
         t.due("two transfers", x.way(0, 1, false, 2), 9);
-        dueSteps(x, 30, 0, 30, 1);
+        t.dueSteps(x, 30, 0, 30, 1);
         x.transfer(12);
         t.due("way", x.way(0, 1, true, 2), 21);
         t.due("there already", x.way(2, 120, true, 2), 120);
-        dueSteps(x);
+        t.dueSteps(x);
     }
 
     private static void wayOfFewestSteps() {
-        GaugeWeekend x = fresh("promise 14, fewest steps");
+        GaugeWeekend x = t.fresh("promise 14, fewest steps");
         x.line(0, 1, 4, 1, true);
         x.line(1, 2, 4, 1, true);
         x.line(0, 2, 4, 2, true);
         t.due("alike", x.way(0, 0, false, 2), 2);
-        dueSteps(x, 2);
+        t.dueSteps(x, 2);
         // by 0 and 1 they are in 2 sooner, but line 3 makes them wait
         x.line(2, 3, 80, 1, true);
         x.line(0, 2, 4, 9, true);
         Checks.order(x, "line 3 at 0 with 1;line 0 at 0 with 1;line 1 at 0 with 1;line 4 at 0 with 1");
         t.due("no hurry", x.way(0, 1, true, 3), 21);
-        dueSteps(x, 4, 3);
+        t.dueSteps(x, 4, 3);
     }
 
     private static void wayFirstAsRow() {
-        GaugeWeekend x = fresh("promise 14, first as rows");
+        GaugeWeekend x = t.fresh("promise 14, first as rows");
         x.line(1, 3, 4, 2, true);
         x.line(0, 2, 4, 2, true);
         x.line(2, 3, 4, 2, true);
         x.line(0, 1, 4, 2, true);
         x.line(1, 0, 4, 2, true);
         t.due("alike", x.way(0, 0, false, 3), 4);
-        dueSteps(x, 1, 2);
+        t.dueSteps(x, 1, 2);
         t.due("alike", x.way(3, 0, false, 0), 4);
-        dueSteps(x, 0, 3);
+        t.dueSteps(x, 0, 3);
         x.transfer(0);
         t.due("line ahead of transfer", x.way(0, 0, true, 3), 4);
-        dueSteps(x, 30, 1, 2);
+        t.dueSteps(x, 30, 1, 2);
         Checks.order(x, "line 3 at 0 with 9; line 4 at 0 with 9");
         t.due("line, then transfer", x.way(0, 1, true, 3), 5);
-        dueSteps(x, 3, 30, 0);
+        t.dueSteps(x, 3, 30, 0);
     }
 
     private static void wayByLastHour() {
-        GaugeWeekend x = chain("promise 14, hour 120", 2, 12);
+        GaugeWeekend x = t.chain("promise 14, hour 120", 2, 12);
         t.due("by 120", x.way(0, 96, false, 2), 120);
         t.due("behind 120", x.way(0, 97, false, 2), -6);
         Checks.order(x, "line 0 at 100 with 1");
@@ -493,7 +464,7 @@ public final class PromisesTest {
     }
 
     private static void wayRefused() {
-        GaugeWeekend x = chain("promise 14, refused", 2, 1);
+        GaugeWeekend x = t.chain("promise 14, refused", 2, 1);
         t.due("way", x.way(0, 0, false, 2), 2);
         int[][] wrong = {{-1, 0, 0}, {16, 0, 0}, {0, -1, 0}, {0, 121, 0}, {0, 0, -1}, {0, 0, 16},
             {LEAST, 0, 0}, {0, MOST, 0}, {0, 0, MOST}};
@@ -503,13 +474,13 @@ public final class PromisesTest {
         }
         t.due("none", x.way(0, 0, false, 15), -6);
         t.due("status", x.status(), -6);
-        dueSteps(x, 0, 1);
+        t.dueSteps(x, 0, 1);
         t.due("way", x.way(15, 120, false, 15), 120);
-        dueSteps(x);
+        t.dueSteps(x);
     }
 
     private static void step() {
-        GaugeWeekend x = chain("promise 15", 15, 1);
+        GaugeWeekend x = t.chain("promise 15", 15, 1);
         t.due("ahead of any", x.step(-1), NONE);
         x.way(0, 0, false, 14);
         t.due("how many", x.step(-1), 14);
@@ -523,7 +494,7 @@ public final class PromisesTest {
     }
 
     private static void shop() {
-        GaugeWeekend x = fresh("promise 16");
+        GaugeWeekend x = t.fresh("promise 16");
         t.due("shop", x.shop(0, 9), 0);
         t.due("shop", x.shop(15, 1), 0);
         t.due("shop", x.shop(0, 0), 9);
@@ -536,7 +507,7 @@ public final class PromisesTest {
     }
 
     private static void car() {
-        GaugeWeekend x = fresh("promise 17");
+        GaugeWeekend x = t.fresh("promise 17");
         int[][] wrong = {{-1, 0}, {16, 0}, {0, -1}, {0, 121}, {LEAST, 0}, {0, MOST}};
         for (int[] w : wrong) {
             t.due("wrong car", x.car(w[0], w[1]), -1);
@@ -551,7 +522,7 @@ public final class PromisesTest {
     }
 
     private static void comes() {
-        GaugeWeekend x = chain("promise 18", 3, 5);
+        GaugeWeekend x = t.chain("promise 18", 3, 5);
         x.line(0, 2, 1, 12, true);
         x.car(0, 7);
         x.car(3, 113);
@@ -575,7 +546,7 @@ public final class PromisesTest {
     }
 
     private static void comesOverManyLines() {
-        GaugeWeekend x = fresh("promise 18, many lines");
+        GaugeWeekend x = t.fresh("promise 18, many lines");
         for (int i = 14; i >= 0; i--) {
             x.line(i, i + 1, 1, 8, true);
         }
@@ -590,11 +561,11 @@ public final class PromisesTest {
         t.due("too late to be pushed", x.pushed(120), 1);
         t.due("the third alone", x.has(2), 1);
         t.due("way", x.way(0, 0, false, 15), 120);
-        dueSteps(x, 14, 13, 12, 11, 10, 9, 8, 7, 6, 5, 4, 3, 2, 1, 0);
+        t.dueSteps(x, 14, 13, 12, 11, 10, 9, 8, 7, 6, 5, 4, 3, 2, 1, 0);
     }
 
     private static void wayOfMostSteps() {
-        GaugeWeekend x = fresh("promise 14, most steps");
+        GaugeWeekend x = t.fresh("promise 14, most steps");
         for (int i = 14; i >= 0; i--) {
             x.line(i, i + 1, 1, 1, true);
         }
@@ -607,12 +578,12 @@ public final class PromisesTest {
             want[2 * i] = 30;
             want[2 * i + 1] = 14 - i;
         }
-        dueSteps(x, want);
+        t.dueSteps(x, want);
         t.due("step", x.step(29), 0);
     }
 
     private static void pushedMovesOn() {
-        GaugeWeekend x = fresh("promise 19, cars move on");
+        GaugeWeekend x = t.fresh("promise 19, cars move on");
         x.line(0, 1, 1, 1, true);
         x.line(1, 2, 1, 1, true);
         x.shop(0, 1);
@@ -636,7 +607,7 @@ public final class PromisesTest {
     }
 
     private static void pushedInOrder() {
-        GaugeWeekend x = fresh("promise 19, cars in order");
+        GaugeWeekend x = t.fresh("promise 19, cars in order");
         x.shop(4, 2);
         x.car(4, 3);
         x.car(4, 2);
@@ -659,7 +630,7 @@ public final class PromisesTest {
     }
 
     private static void pushedManyHours() {
-        GaugeWeekend x = fresh("promise 19, many hours");
+        GaugeWeekend x = t.fresh("promise 19, many hours");
         x.shop(0, 1);
         for (int i = 0; i < 30; i++) {
             x.car(0, 90);
@@ -675,7 +646,7 @@ public final class PromisesTest {
     }
 
     private static void has() {
-        GaugeWeekend x = fresh("promise 20");
+        GaugeWeekend x = t.fresh("promise 20");
         x.car(0, 0);
         x.car(1, 0);
         t.due("ahead of any", x.has(0), NONE);
@@ -697,7 +668,7 @@ public final class PromisesTest {
     }
 
     private static void wheel() {
-        GaugeWeekend x = fresh("promise 21");
+        GaugeWeekend x = t.fresh("promise 21");
         t.due("no car", x.wheel(0), -2);
         x.car(0, 0);
         x.car(0, 0);
@@ -715,7 +686,7 @@ public final class PromisesTest {
     }
 
     private static void see() {
-        GaugeWeekend x = fresh("promise 22");
+        GaugeWeekend x = t.fresh("promise 22");
         x.car(0, 0);
         x.wheel(0);
         int[][] wrong = {{0, 0, -1, 0}, {0, 0, 121, 0}, {0, 0, 0, -1}, {0, 0, 0, 1001}, {9, 9, 121, 0},
@@ -737,7 +708,7 @@ public final class PromisesTest {
     }
 
     private static void under() {
-        GaugeWeekend x = fresh("promise 23");
+        GaugeWeekend x = t.fresh("promise 23");
         for (int i = 0; i < 5; i++) {
             x.car(0, 0);
         }
@@ -771,7 +742,7 @@ public final class PromisesTest {
     }
 
     private static void count() {
-        GaugeWeekend x = chain("promise 24", 3, 1);
+        GaugeWeekend x = t.chain("promise 24", 3, 1);
         Checks.order(x, "line 2 at 9 with 1;line 1 at 4 with 1");
         x.car(0, 0);
         x.wheel(0);
@@ -791,7 +762,7 @@ public final class PromisesTest {
     }
 
     private static void status() {
-        GaugeWeekend x = fresh("promise 25");
+        GaugeWeekend x = t.fresh("promise 25");
         dueStatus(x, "line", x.line(0, 0, 1, 1, true), -1, -1);
         dueStatus(x, "line", x.line(0, 1, 1, 1, true), 0, 0);
         dueStatus(x, "rates", x.rates(0, 0), -1, -1);
