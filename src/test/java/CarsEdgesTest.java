@@ -474,6 +474,10 @@ public final class CarsEdgesTest {
     private static void promise20WhichCar() {
         GaugeWeekend x = t.alikeCars("promise 20: CARS that there are", 29);
         x.shop(0, 9);
+        // the document leaves room here: there is no latest PUSHED that it could be in
+        t.due("has(0) ahead of any", x.has(0), NONE);
+        x.pushed(121);
+        t.due("has(0) behind a refused one", x.has(0), NONE);
         x.pushed(120);
         t.due("the first", x.has(0), 1);
         t.due("the last", x.has(28), 1);

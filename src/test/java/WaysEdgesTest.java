@@ -423,6 +423,8 @@ public final class WaysEdgesTest {
             t.due("step(" + i + ") ahead of any", x.step(i), NONE);
         }
         t.due("step(0) ahead of any", x.step(0), NONE);
+        // the document leaves room here: there is no latest WAY that could have steps
+        t.due("step(-1) ahead of any", x.step(-1), NONE);
         t.due("way", x.way(3, 0, false, 0), 3);
         t.due("how many", x.step(-1), 3);
         t.due("the first", x.step(0), 2);
